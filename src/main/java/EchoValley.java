@@ -306,6 +306,9 @@ public final class EchoValley {
         }
         // A sound with LOUD k or more is one that would still come with a loudness k - 1 less.
         int loud = land.men.loudAt(man) - (k - 1);
+        if (loud < 1) {
+            return 0;
+        }
         int many = 0;
         for (int y = 0; y < land.high; y++) {
             for (int x = 0; x < land.wide; x++) {
@@ -1302,7 +1305,7 @@ public final class EchoValley {
 
         /** In thousandths, where the way by one wall or two touches the k-th; NO_SOUND: no such way. */
         private int touchPlace(Wall one, Wall two, int k, boolean high) {
-            if (!one.there || two != null && !two.there) {
+            if (one == null || !one.there || two != null && !two.there) {
                 return NO_SOUND;
             }
             unfold(one, two);

@@ -92,11 +92,11 @@ public final class ModelTests {
     private int names = 0;
 
     private String name() {
-        return pick(60) == 0 ? "a" : "n" + (char) ('a' + names / 26 % 26) + (char) ('a' + names++ % 26);
+        return pick(90) == 0 ? "a" : "n" + (char) ('a' + names / 26 % 26) + (char) ('a' + names++ % 26);
     }
 
     private String number(int least, int most) {
-        return pick(150) == 0 ? "" + pick(200) : pick(20) == 0 ? "0" + between(least, most) : "" + between(least, most);
+        return pick(300) == 0 ? "" + pick(200) : pick(20) == 0 ? "0" + between(least, most) : "" + between(least, most);
     }
 
     private String wallText() {
@@ -108,8 +108,8 @@ public final class ModelTests {
     }
 
     private String telling() {
-        switch (pick(11)) {
-            case 0: case 1: case 2: case 3: return wallText();
+        switch (pick(13)) {
+            case 0: case 1: case 2: case 3: case 10: case 11: return wallText();
             case 4: case 5: return "man " + name() + " " + pick(wide) + " " + number(0, high - 1) + " " + number(1, 99) + ";";
             case 6: return "ear " + name() + " " + number(0, wide - 1) + " " + pick(high) + ";";
             case 7: return "bell " + name() + " " + pick(wide) + " " + pick(high) + " " + number(0, pick(2) == 0 ? 500 : 9999) + ";";
@@ -122,13 +122,21 @@ public final class ModelTests {
     private static final String[] SPARE = {";", "wall", "up", "99", "12345", "abcdefghi", "x", " ", "\n", "!", ".", "A",
         "map 4 4;", "map 41 4;", "man q 3 3 3;", "ear r 39 0;", "gap 1", "\u00e9", "\u0000", "0", "wall z up 3 4 2 1;"};
 
+    private String post(String word, String rest) {
+        return word + " " + name() + " " + pick(wide) + " " + pick(high) + rest + ";";
+    }
+
     private void text() throws Exception {
         int side = pick(4) == 0 ? 40 : 12;
         wide = between(1, side);
         high = between(1, side);
         budget = wide * high > 200 ? 8 : 60;
         StringBuilder s = new StringBuilder("map " + wide + " " + high + ";");
-        int many = pick(25);
+        if (pick(6) != 0) {
+            s.append(post("man", " " + between(20, 99))).append(post("man", " " + between(1, 99)));
+            s.append(post("ear", "")).append(post("ear", "")).append(post("bell", " 0")).append(post("bell", " " + pick(900)));
+        }
+        int many = pick(18);
         for (int i = 0; i < many; i++) {
             s.append(pick(3) == 0 ? "\t\n" : "").append(telling());
         }
@@ -137,7 +145,7 @@ public final class ModelTests {
                 s.append("gap1;");
             }
         }
-        if (pick(4) == 0) {
+        if (pick(5) == 0) {
             int at = pick(s.length() + 1);
             if (pick(2) == 0) {
                 s.insert(at, SPARE[pick(SPARE.length)]);

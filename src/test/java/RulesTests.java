@@ -1,0 +1,168 @@
+import java.lang.reflect.Constructor;
+import java.lang.reflect.Field;
+import java.lang.reflect.Method;
+import java.lang.reflect.Modifier;
+import java.nio.file.Files;
+import java.nio.file.Path;
+import java.util.ArrayList;
+import java.util.Arrays;
+import java.util.List;
+import java.util.Set;
+import java.util.TreeSet;
+import java.util.regex.Matcher;
+import java.util.regex.Pattern;
+
+/** Looks at the class for the rules of LANGUAGE.md that a program can see. */
+public final class RulesTests {
+    private static int wrong = 0;
+
+    private static void rule(int number, String what, boolean kept) {
+        if (!kept) {
+            wrong++;
+            System.out.println("rule " + number + ": " + what);
+        }
+    }
+
+    public static void main(String[] args) throws Exception {
+        String source = Files.readString(Path.of("src/main/java/EchoValley.java"));
+        String code = plain(source);
+        face();
+        members();
+        words(code);
+        library(code);
+        lengths(code);
+        for (int i = 0; i < source.length(); i++) {
+            rule(4, "a sign beyond 127", source.charAt(i) < 128);
+        }
+        rule(4, "one import", code.split("\\bimport\\b").length == 2);
+        System.out.println(wrong == 0 ? "RulesTests: all kept" : "RulesTests: " + wrong + " not kept");
+        if (wrong != 0) {
+            System.exit(1);
+        }
+    }
+
+    /** The code without comments, texts and characters. */
+    private static String plain(String source) {
+        String s = Pattern.compile("/\\*.*?\\*/", Pattern.DOTALL).matcher(source).replaceAll("");
+        s = s.replaceAll("//[^\n]*", "");
+        return s.replaceAll("\"[^\"\n]*\"", "\"\"").replaceAll("'[^'\n]*'", "' '");
+    }
+
+    // ---- by reflection
+
+    private static void face() throws Exception {
+        String doc = Files.readString(Path.of("../shared/DOC.md"));
+        String face = doc.substring(doc.indexOf("```java"), doc.indexOf("}\n```"));
+        Set<String> due = new TreeSet<>();
+        Matcher m = Pattern.compile("public (int|boolean) (\\w+)\\(([^)]*)\\);").matcher(face);
+        while (m.find()) {
+            due.add(m.group(1) + " " + m.group(2) + "(" + m.group(3).replaceAll(" \\w+(?=,|$)", "").replace(" ", "") + ")");
+        }
+        rule(1, "the document's face was found", due.size() == 36);
+        Set<String> got = new TreeSet<>();
+        for (Method method : EchoValley.class.getDeclaredMethods()) {
+            if (Modifier.isPublic(method.getModifiers())) {
+                StringBuilder types = new StringBuilder();
+                for (Class<?> type : method.getParameterTypes()) {
+                    types.append(types.length() == 0 ? "" : ",").append(type.getName());
+                }
+                got.add(method.getReturnType().getName() + " " + method.getName() + "(" + types + ")");
+                rule(1, "static: " + method, !Modifier.isStatic(method.getModifiers()));
+            } else {
+                rule(1, "not private: " + method, Modifier.isPrivate(method.getModifiers()));
+            }
+        }
+        rule(1, "the face is " + got, got.equals(due));
+        rule(1, "NONE", EchoValley.class.getField("NONE").getInt(null) == -1);
+        rule(1, "fields of the face", EchoValley.class.getFields().length == 1);
+        int modifiers = EchoValley.class.getModifiers();
+        rule(1, "public and final", Modifier.isPublic(modifiers) && Modifier.isFinal(modifiers));
+        Constructor<?>[] all = EchoValley.class.getDeclaredConstructors();
+        rule(1, "constructors", all.length == 1 && Modifier.isPublic(all[0].getModifiers()));
+    }
+
+    private static void members() {
+        List<Class<?>> classes = new ArrayList<>(Arrays.asList(EchoValley.class.getDeclaredClasses()));
+        Set<String> publicNames = new TreeSet<>();
+        for (Method method : EchoValley.class.getMethods()) {
+            publicNames.add(method.getName());
+        }
+        for (Class<?> inner : classes) {
+            rule(2, "static: " + inner, Modifier.isStatic(inner.getModifiers()));
+            for (Method method : inner.getDeclaredMethods()) {
+                rule(1, "a public one's name: " + method, !publicNames.contains(method.getName()));
+            }
+        }
+        classes.add(EchoValley.class);
+        rule(11, "classes", classes.size() <= 12);
+        for (Class<?> each : classes) {
+            int fields = 0;
+            for (Field field : each.getDeclaredFields()) {
+                boolean isStatic = Modifier.isStatic(field.getModifiers());
+                fields += isStatic ? 0 : 1;
+                rule(5, "final: " + field, !isStatic || Modifier.isFinal(field.getModifiers()));
+                rule(1, "private: " + field, Modifier.isPrivate(field.getModifiers()) || field.getName().equals("NONE"));
+            }
+            rule(11, "fields of " + each, fields <= 20);
+            for (Method method : each.getDeclaredMethods()) {
+                rule(11, "parameters of " + method, method.getParameterCount() <= 7);
+            }
+        }
+        for (Method method : EchoValley.class.getDeclaredMethods()) {
+            rule(1, "a public one's name: " + method,
+                Modifier.isPublic(method.getModifiers()) || !publicNames.contains(method.getName()));
+        }
+    }
+
+    // ---- by the source
+
+    private static void words(String code) {
+        String[] banned = {"throw", "throws", "try", "catch", "finally", "synchronized", "assert", "yield", "volatile", "native",
+            "transient", "interface", "enum", "record", "super", "protected", "instanceof", "System", "Math.sqrt", "double", "float",
+            "Object", "equals", "hashCode", "toString", "String.valueOf", "Integer.valueOf", "var"};
+        for (String word : banned) {
+            rule(6, "the word " + word, !Pattern.compile("\\b" + Pattern.quote(word) + "\\b").matcher(code).find());
+        }
+        rule(2, "a lambda", !code.contains("->"));
+        rule(2, "a method reference", !code.contains("::"));
+        rule(6, "an annotation", !code.contains("@"));
+        rule(10, "joining of texts", !Pattern.compile("\"\\s*\\+|\\+\\s*\"").matcher(code).find());
+        rule(9, "a loop without an end", !Pattern.compile("for \\(;;|while \\(true").matcher(code).find());
+        rule(5, "static blocks", !Pattern.compile("static\\s*\\{").matcher(code).find());
+    }
+
+    /** Functions of the library, called by their class; and what is made. */
+    private static void library(String code) {
+        Set<String> known = Set.of("Math.abs", "Math.max", "Math.min", "Math.floorDiv", "Math.floorMod", "Integer.bitCount",
+            "Arrays.fill", "Arrays.copyOf", "Arrays.copyOfRange", "java.util.Arrays");
+        Matcher m = Pattern.compile("\\b(Math|Integer|Long|Arrays|List|java)\\.[\\w.]+").matcher(code);
+        while (m.find()) {
+            rule(4, "the library's " + m.group(), known.contains(m.group()));
+        }
+        Matcher made = Pattern.compile("\\bnew (\\w+)").matcher(code);
+        while (made.find()) {
+            boolean own = code.contains("class " + made.group(1) + " ");
+            rule(4, "new " + made.group(1), own || Set.of("int", "byte").contains(made.group(1)));
+        }
+        Matcher lines = Pattern.compile("\n        [^\n]*\\bnew \\w+[^\n]*").matcher(code);
+        while (lines.find()) {
+            boolean field = lines.group().contains("private final");
+            boolean constructor = Pattern.compile("\\w+\\[?i?\\]? = new ").matcher(lines.group()).find();
+            rule(12, "made outside of constructors:" + lines.group(), field || constructor);
+        }
+    }
+
+    private static void lengths(String code) {
+        String[] lines = code.split("\n");
+        int from = 0;
+        for (int i = 0; i < lines.length; i++) {
+            if (lines[i].matches("\\s+(public|private)[^;=]*\\) \\{")) {
+                from = i;
+            }
+            if (lines[i].matches(" {4}( {4})?\\}")) {
+                rule(11, "long: " + lines[from].trim(), i - from <= 60);
+                from = i;
+            }
+        }
+    }
+}
