@@ -591,22 +591,17 @@ public final class EchoValley {
         found.count = 0;
         for (int y = 0; y < land.high; y++) {
             for (int x = 0; x < land.wide; x++) {
-                if (mayHaveBegunAt(x, y, k)) {
+                boolean fits = true;
+                for (int j = 0; j < k && fits; j++) {
+                    int u = x + shouts.xAt(j);
+                    int v = y + shouts.yAt(j);
+                    fits = land.holds(u, v) && echoTime(u, v, shouts.loudAt(j)) == shouts.timeAt(j);
+                }
+                if (fits) {
                     found.add(placeCode(x, y));
                 }
             }
         }
-    }
-
-    private boolean mayHaveBegunAt(int x, int y, int k) {
-        for (int j = 0; j < k; j++) {
-            int u = x + shouts.xAt(j);
-            int v = y + shouts.yAt(j);
-            if (!land.holds(u, v) || echoTime(u, v, shouts.loudAt(j)) != shouts.timeAt(j)) {
-                return false;
-            }
-        }
-        return true;
     }
 
     /** The answer of every place is kept, for each is asked for by up to 25 steps. */
@@ -665,8 +660,9 @@ public final class EchoValley {
         return found.count == 0 ? NO_SOUND : found.get(0);
     }
 
+    /** Rounded down, for a is never below 0. */
     private static long quotient(long a, long b) {
-        return b < 1 ? 0 : Math.floorDiv(a, b);
+        return b < 1 ? 0 : a / b;
     }
 
     /** The square root, rounded down, of what is below 2 to the 42nd. */
@@ -787,7 +783,7 @@ public final class EchoValley {
                 }
                 if (!goesOn(word, step)) {
                     blame(SYNTAX, start);
-                } else if (t == MOST_TOKENS || step == 0 && isFull(word)) {
+                } else if (t == MOST_TOKENS || step == 0 && addsTooMany(word)) {
                     blame(ROOM, start);
                 } else {
                     keepToken();
@@ -814,8 +810,8 @@ public final class EchoValley {
             return kind == (step <= named + sided + ints ? INT : SEMICOLON);
         }
 
-        /** One more of the word is told: whether there are too many now. */
-        private boolean isFull(int word) {
+        /** One more of the word is told: whether it is one too many. */
+        private boolean addsTooMany(int word) {
             int i = word - WALL;
             if (i < 0 || i >= timesTold.length) {
                 return true;
@@ -1118,10 +1114,10 @@ public final class EchoValley {
         private long y;
         private long d = 1;
 
-        private void set(long x, long y, long d) {
+        private void setWhole(long x, long y) {
             this.x = x;
             this.y = y;
-            this.d = d;
+            this.d = 1;
         }
     }
 
@@ -1144,11 +1140,9 @@ public final class EchoValley {
 
         /** Lays a place of whole numbers over the wall's line. */
         private void mirror(Spot spot, Spot image) {
-            if (flat) {
-                image.set(spot.x, 2L * where - spot.y, 1);
-            } else {
-                image.set(2L * where - spot.x, spot.y, 1);
-            }
+            image.x = flat ? spot.x : 2L * where - spot.x;
+            image.y = flat ? 2L * where - spot.y : spot.y;
+            image.d = 1;
         }
 
         /**
@@ -1170,11 +1164,9 @@ public final class EchoValley {
             if (l < from * d || l > to * d) {
                 return false;
             }
-            if (flat) {
-                spot.set(l, where * d, d);
-            } else {
-                spot.set(where * d, l, d);
-            }
+            spot.x = flat ? l : where * d;
+            spot.y = flat ? where * d : l;
+            spot.d = d;
             return true;
         }
     }
@@ -1197,19 +1189,19 @@ public final class EchoValley {
         }
 
         private void span(int x, int y, int u, int v) {
-            start.set(x, y, 1);
-            end.set(u, v, 1);
+            start.setWhole(x, y);
+            end.setWhole(u, v);
         }
 
         /** Finds the images; the square of the way's length. */
         private long unfold(Wall one, Wall two) {
             if (two == null) {
-                nearImage.set(end.x, end.y, 1);
+                nearImage.setWhole(end.x, end.y);
             } else {
                 two.mirror(end, nearImage);
             }
             if (one == null) {
-                lastImage.set(nearImage.x, nearImage.y, 1);
+                lastImage.setWhole(nearImage.x, nearImage.y);
             } else {
                 one.mirror(nearImage, lastImage);
             }

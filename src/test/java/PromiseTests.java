@@ -121,7 +121,9 @@ public final class PromiseTests {
         due("tape", e.count(11), 2000);
         due("back 1", e.back(1), 1999);
         due("feed too much by 19", e.feed(0, 0, 0, 0, 0), -1);
-        due("back 19", e.back(19), 1980);
+        due("back 18", e.back(18), 1981);
+        due("feed too much by 1", e.feed(0, 0, 0, 0, 0), -1);
+        due("back 1", e.back(1), 1980);
         due("feed to the end", e.feed(0x20202020, 0x20202020, 0x20202020, 0x20202020, 0x20202067), 2000);
         due("read", e.read(), 1);
         due("place", e.place(), 1999);
@@ -220,6 +222,8 @@ public final class PromiseTests {
         String even = many("map1 1;", 100);
         fine(even);
         fine(even + "  ");
+        EchoValley last = valley(even.substring(7) + "map2 3;");
+        due("the last of 400 TOKENS", 10 * last.count(4) + last.count(5), 23);
         fault(even + "map1 1;", 2, even.length());
         fault(even + ";", 1, even.length());
         fault("!" + even + even.substring(0, 500), 1, 0);
@@ -232,6 +236,12 @@ public final class PromiseTests {
         fault("man a 1 1 0;ear a 1 1;", 5, 10);
         fault("man a 1 1 1;ear a 1 100;", 3, 16);
         fault("man a 99 1 1;ear a 1 1;", 3, 17);
+        fault("man m 99 1 1;", 6, 6);
+        fault("man m 1 99 1;", 6, 8);
+        fault("ear m 99 1;", 6, 6);
+        fault("ear m 1 99;", 6, 8);
+        fault("bell m 99 1 1;", 6, 7);
+        fault("bell m 1 99 1;", 6, 9);
         fine("ear ab 1 1;ear ba 1 1;ear a 1 1;ear b 1 1;");
         fault("wall w up 100 0 9 0;", 5, 10);
         fault("wall w flat 0 100 100 0;", 5, 14);
@@ -270,6 +280,9 @@ public final class PromiseTests {
         fault("bell m 20 20 1;", 6, 7);
         fault("bell m 19 20 1;", 6, 10);
         fine("man m 29 1 1;map 30 2;");
+        fine("map 30 31;man m 29 30 1;");
+        fault("map 6 5;man m 6 1 1;", 6, 14);
+        fault("map 6 5;man m 5 5 1;", 6, 16);
         fault("man m 30 1 1;map 30 2;", 6, 6);
         fault("man m 29 2 1;map 30 2;", 6, 9);
         fault("map 30 30;man m 9 9 99;map 9 30;", 6, 16);
@@ -304,6 +317,19 @@ public final class PromiseTests {
         }
         due("restore", e.restore(2), false);
 
+        // Each text is read by itself: as many walls as can be, and once more; then no wall at all.
+        String most = many("wall ? up 9 0 9 0;", 8) + many("man m? 1 1 1;", 6) + many("ear e? 1 1;", 6) + many("bell b? 1 1 1;", 6);
+        for (int i = 0; i < 3; i++) {
+            put(e, most);
+            due("read once more", e.read(), 0);
+            due("walls", e.count(0), 8);
+        }
+        put(e, "map 4 5;gap 6;");
+        due("read", e.read(), 0);
+        due("no wall", e.count(0), 0);
+        due("no wall", e.returns(1, 1, 1, 1, 9), 1);
+        due("no bell", e.first(1, 1, 0), -2);
+
         promise = 5;
         due("place", e.place(), -1);
         put(e, "gap");
@@ -332,6 +358,7 @@ public final class PromiseTests {
         }
         due("no such wall", e.wall(2, 0), -1);
         due("no such what", e.wall(1, 6), -1);
+        due("no such what", e.wall(1, 7), -1);
         for (int n : ODD) {
             due("wall", e.wall(n, 0), -1);
             due("wall", e.wall(0, n), -1);
@@ -451,6 +478,9 @@ public final class PromiseTests {
         // By 1 and then 3 off the walls: from 5 to 7 by two walls it is 6 or 10 long.
         at(e, new int[] {5, 5, 7, 5}, 30, new int[][] {
             {0, 200, 30, 2}, {10, 400, 30, 4}, {11, 400, 30, 4}, {101, 600, 30, 6}, {110, 1000, 29, 10}});
+        // Straight is blocked by c: what is told later may come first.
+        e = valley("wall a up 0 0 19 0; wall b up 9 0 19 0; wall c flat 5 7 7 0;");
+        at(e, new int[] {7, 4, 7, 6}, 30, new int[][] {{11, 447, 30, 4}, {10, 1414, 29, 14}, {101, 1811, 29, 18}, {110, 1811, 29, 18}});
         // Walls on one line: each gives its own way, none goes from one to the other.
         e = valley("wall a up 4 0 9 0; wall b up 4 3 20 1;");
         at(e, new int[] {6, 5, 6, 5}, 30, new int[][] {{0, 0, 30, 0}, {10, 400, 30, 4}, {11, 400, 29, 4}});
@@ -543,8 +573,23 @@ public final class PromiseTests {
     // ---- promise 12
 
     private static void touches() {
+        promise = 11;
+        // 1000 times the root of 25 * 25 + 1 is 25019.99.
+        EchoValley e = valley("map 40 40; pace 1;");
+        due("true TIME", e.at(0, 0, 25, 1, 99, 0, 1), 25019);
+        due("true TIME", e.at(39, 0, 0, 32, 99, 0, 1), 50447);
+
         promise = 12;
-        EchoValley e = valley("wall a up 0 0 19 0; wall b flat 0 0 19 0; map 20 18;");
+        e = valley("map 12 8; wall a up 99 0 0 0; wall b up 11 0 20 0; wall c up 98 0 0 0; wall d flat 99 0 0 0; wall f up 97 0 0 0;"
+            + "wall g up 96 0 0 0; wall h up 95 0 0 0; wall i up 0 0 20 0;");
+        // From (4, 2) it is 7 to b, 11 to i and 7 to (7, 6).
+        due("the eighth wall", e.touch(4, 2, 7, 6, 117, 0, false), 11000);
+        due("the eighth wall", e.touch(4, 2, 7, 6, 117, 0, true), 3120);
+        due("the eighth wall", e.touch(4, 2, 7, 6, 171, 1, false), 11000);
+        due("the eighth wall", e.touch(4, 2, 7, 6, 17, 0, true), 3454);
+        due("the ninth", e.touch(4, 2, 7, 6, 118, 0, true), -1);
+        due("the ninth", e.touch(4, 2, 7, 6, 18, 0, true), -1);
+        e = valley("wall a up 0 0 19 0; wall b flat 0 0 19 0; map 20 18;");
         due("first x", e.touch(3, 4, 5, 2, 101, 0, false), 0);
         due("first y", e.touch(3, 4, 5, 2, 101, 0, true), 1750);
         due("second x", e.touch(3, 4, 5, 2, 101, 1, false), 2333);
@@ -617,6 +662,7 @@ public final class PromiseTests {
         heardAndDrowned(text + "gap 201;", 2, 3);
         heardAndDrowned(text + "gap 200;", 4, 0);
 
+        due("nothing asked ahead", valley(text + "gap 201;").drowned(0, 0), 3);
         promise = 13;
         EchoValley e = valley("man m 6 5 3; man n 0 0 9; ear e 6 6; ear f 19 19; wall a flat 9 0 19 0; gap 3;");
         due("heard", e.heard(0, 0), 2);
@@ -678,6 +724,12 @@ public final class PromiseTests {
             due("stand " + Arrays.toString(o), e.stand(o[0], o[1], o[2], o[3]), -1);
         }
         due("stand of most", e.stand(Integer.MAX_VALUE, 99, 1, 0), 0);
+        // A wall that is longer than the MAP; a MAP as great as can be.
+        e = valley("wall a up 6 0 19 0; map 8 6;");
+        due("longer", e.stand(0, 99, 1, 0), 42);
+        e = valley("wall a up 45 0 45 0; map 40 40;");
+        due("all", e.stand(0, 99, 1, 0), 1600);
+        due("all", e.stand(50, 99, 200, 1), -2);
         // Along a flat wall, told last, the first place by y is not that by x.
         e = valley("wall a up 3 2 5 0; map 4 6; fall 1;");
         due("first by y, then x", e.stand(1, 9, 200, 1), code(0, 2));
@@ -750,6 +802,11 @@ public final class PromiseTests {
         due("straight is none", e.canon(5, 5, 30, 1, 1), 0);
         due("99", e.canon(5, 5, 30, 8, 99), 20);
         due("low", e.canon(5, 5, 1, 200, 5), 3);
+        due("199", e.canon(5, 5, 30, 199, 1), 1);
+        e = valley("wall a up 4 0 9 0; wall b up 8 0 9 0; gap 1; fall 1;");
+        due("199", e.canon(5, 5, 30, 199, 1), 0);
+        due("200, 400, 600", e.canon(5, 5, 30, 200, 3), 2);
+        due("low", e.canon(5, 5, 3, 200, 3), 1);
         e = valley("wall a up 4 0 9 0; wall b up 8 0 9 0; gap 0; map 20 18;");
         due("at it", e.canon(5, 5, 30, 200, 5), 3);
         due("ahead of it", e.canon(5, 5, 30, 199, 1), 0);
@@ -908,10 +965,16 @@ public final class PromiseTests {
         due("when is told", e.first(0, 0, 1), 300);
         due("of alike ones the least", e.first(3, 0, 0), 1);
         due("of alike ones the least", e.first(3, 0, 1), 300);
+        due("at the bell", e.first(6, 0, 0), 1);
+        due("at the bell", e.first(6, 0, 1), 0);
         due("nearer", e.first(6, 2, 0), 2);
         due("nearer", e.first(6, 2, 1), 100);
         due("true length", e.first(3, 3, 1), 300);
         due("true length", e.first(5, 1, 1), 141);
+        EchoValley two = valley("bell a 0 0 0; bell b 6 0 0; bell c 0 0 0; map 9 4;");
+        due("of alike ones the least", two.first(3, 0, 0), 0);
+        due("of alike ones the least", two.first(3, 3, 0), 0);
+        due("nearer", two.first(4, 3, 0), 1);
         due("first", e.first(9, 0, 0), -1);
         due("first", e.first(0, 4, 0), -1);
         due("first", e.first(-1, 0, 0), -1);
@@ -944,6 +1007,7 @@ public final class PromiseTests {
         due("300", e.cross(1, 0, 300, 0), 4);
         due("300", e.cross(1, 0, 300, 1), 1);
         due("700", e.cross(1, 0, 700, 0), 8);
+        due("700", e.cross(0, 1, 700, 0), 8);
         due("most", e.cross(1, 2, Integer.MAX_VALUE, 0), 8);
         due("one and the same", e.cross(1, 1, 0, 0), -1);
         due("cross", e.cross(3, 1, 0, 0), -1);
@@ -1031,6 +1095,8 @@ public final class PromiseTests {
         due("i -2", e.hidden(0, -2), -1);
         e.tell(5, 5, 99, 400);
         list(e, 1, 3, 7, 103, 107);
+        due("nothing is left standing", e.returns(5, 5, 5, 5, 99), 1);
+        due("nothing is left standing", e.beats(9, 0, 99, 1), -2);
         due("fewer are known", e.hidden(0, -1), 80);
         e.tell(4, 5, 99, 200);
         list(e, 2, 3);
@@ -1046,6 +1112,18 @@ public final class PromiseTests {
             due("hidden", e.hidden(n, -1), -1);
             due("hidden", e.hidden(1, n), n == -1 ? 64 : -1);
         }
+        // Flat at 0 is not up at 0.
+        e = valley("map 10 10;");
+        e.tell(2, 5, 99, 1000);
+        list(e, 1, 7, 100, 110);
+        // Eight walls are known, and stay as they are.
+        e = valley(many("wall w? up 99 0 0 0;", 8) + "map 10 10;");
+        e.tell(2, 5, 99, 1000);
+        list(e, 1, 7, 100, 110);
+        due("the eighth", e.wall(7, 1), 99);
+        due("the eighth", e.wall(7, 5), 1);
+        e.move(7, 9);
+        due("the eighth", e.returns(2, 0, 2, 0, 99), 2);
         // A wall that is known: nearer ones are out, and farther ones and those on its line stay.
         e = valley("map 10 10; wall w up 8 0 99 0;");
         e.tell(5, 5, 99, 600);
@@ -1068,6 +1146,11 @@ public final class PromiseTests {
         // Of loudness 1 at most one may be too far: 1 and 3 by x, 2 by y.
         due("next, low", e.next(1, 1), code(4, 1));
         due("next of all", e.next(0, 99), 0);
+        // Up and flat at 2: beside the MAP's one place they would not be alike.
+        EchoValley one = valley("map 1 1;");
+        one.tell(0, 0, 99, 400);
+        due("hidden", one.hidden(1, -1), 2);
+        due("next on the MAP", one.next(1, 99), 0);
         e.tell(5, 5, 99, 401);
         due("none is hidden", e.next(2, 99), -2);
         due("next", e.next(3, 99), -1);
@@ -1123,6 +1206,9 @@ public final class PromiseTests {
         due("by y, then x", e.fitting(1, -1), 2);
         due("by y, then x", e.fitting(1, 0), code(2, 1));
         due("by y, then x", e.fitting(1, 1), code(3, 1));
+        EchoValley great = valley("map 40 40;");
+        due("all of the greatest MAP", great.fitting(0, -1), 1600);
+        due("all of the greatest MAP", great.fitting(0, 1599), code(39, 39));
         e.forget();
         e.shout(0, 0, 9, -2);
         due("nothing comes", e.fitting(1, -1), 14);
@@ -1150,6 +1236,24 @@ public final class PromiseTests {
         due("step", e.step(-1, 50), -1);
         due("step", e.step(2, 0), -1);
         due("step", e.step(2, 100), -1);
+        // Begun at 0 .. 3, 4 and more hear a loudness of 12 by 1 off a wall at 9; 3 and more one of 14.
+        e = valley("map 8 1; wall w up 9 0 0 0; fall 1;");
+        e.shout(0, 0, 12, -2);
+        due("begun", e.fitting(1, -1), 4);
+        due("by two to the right", e.step(1, 14), 204);
+        due("no farther than two", e.step(1, 12), 200);
+        e = valley("map 1 8; wall w flat 9 0 0 0; fall 1;");
+        e.shout(0, 0, 12, -2);
+        due("by two down", e.step(1, 14), 402);
+        due("no farther than two", e.step(1, 12), 2);
+        // Begun at 0 and 5 .. 8: by three to the left would be no worse than by two to the right.
+        e = valley("map 9 1; wall w up 0 0 0 0; fall 1;");
+        e.shout(0, 0, 10, -2);
+        due("begun", e.fitting(1, -1), 5);
+        due("no farther than two", e.step(1, 8), 204);
+        e = valley("map 1 9; wall w flat 0 0 0 0; fall 1;");
+        e.shout(0, 0, 10, -2);
+        due("no farther than two", e.step(1, 8), 402);
         // Of alike ones the least dy, then dx.
         e = valley("map 3 3;");
         e.shout(1, 1, 9, -2);
@@ -1235,6 +1339,13 @@ public final class PromiseTests {
         for (int what = 0; what < want.length; what++) {
             due("count " + what, e.count(what), want[what]);
         }
+        e = valley(many("wall w? up 1 1 1 1;", 8) + many("man m? 1 1 1;", 6) + many("ear e? 1 1;", 6) + many("bell b? 1 ? 1;", 6)
+            .replace("1 a", "1 7").replace("1 b", "1 8").replace("1 c", "1 9").replace("1 d", "1 6").replace("1 e", "1 5").replace("1 f", "1 4"));
+        int[] most = {8, 6, 6, 6};
+        for (int what = 0; what < most.length; what++) {
+            due("count " + what, e.count(what), most[what]);
+        }
+        due("the sixth bell", e.first(1, 4, 0), 5);
         due("count 13", e.count(13), -1);
         for (int n : ODD) {
             due("count", e.count(n), -1);

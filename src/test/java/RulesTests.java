@@ -7,7 +7,9 @@ import java.nio.file.Path;
 import java.util.ArrayList;
 import java.util.Arrays;
 import java.util.List;
+import java.util.Map;
 import java.util.Set;
+import java.util.TreeMap;
 import java.util.TreeSet;
 import java.util.regex.Matcher;
 import java.util.regex.Pattern;
@@ -31,6 +33,7 @@ public final class RulesTests {
         words(code);
         library(code);
         lengths(code);
+        depths(code);
         for (int i = 0; i < source.length(); i++) {
             rule(4, "a sign beyond 127", source.charAt(i) < 128);
         }
@@ -150,6 +153,41 @@ public final class RulesTests {
             boolean constructor = Pattern.compile("\\w+\\[?i?\\]? = new ").matcher(lines.group()).find();
             rule(12, "made outside of constructors:" + lines.group(), field || constructor);
         }
+    }
+
+    /** How many methods are open at once, at the most: by their names, which are told apart by no class. */
+    private static void depths(String code) {
+        Map<String, Set<String>> calls = new TreeMap<>();
+        String[] lines = code.split("\n");
+        String name = "";
+        for (String line : lines) {
+            Matcher head = Pattern.compile("^ {4}(?: {4})?(?:public|private)[^;=(]* (\\w+)\\([^;]*\\) \\{").matcher(line);
+            if (head.find()) {
+                name = head.group(1);
+                calls.computeIfAbsent(name, n -> new TreeSet<>());
+                continue;
+            }
+            Matcher call = Pattern.compile("(\\w+)\\(").matcher(line);
+            while (call.find() && !name.isEmpty()) {
+                calls.get(name).add(call.group(1));
+            }
+        }
+        for (String from : calls.keySet()) {
+            int deep = depth(from, calls, 0);
+            rule(11, from + " goes " + deep + " deep", deep <= 8);
+        }
+    }
+
+    private static int depth(String name, Map<String, Set<String>> calls, int open) {
+        if (!calls.containsKey(name)) {
+            return 0;
+        }
+        rule(8, "a recursion through " + name, open < 30);
+        int deepest = 0;
+        for (String next : calls.get(name)) {
+            deepest = open < 30 ? Math.max(deepest, depth(next, calls, open + 1)) : deepest;
+        }
+        return deepest + 1;
     }
 
     private static void lengths(String code) {
