@@ -1,3 +1,5 @@
+import com.sun.management.ThreadMXBean;
+import java.lang.management.ManagementFactory;
 import java.lang.reflect.Constructor;
 import java.lang.reflect.Field;
 import java.lang.reflect.Method;
@@ -34,6 +36,7 @@ public final class RulesTests {
         library(code);
         lengths(code);
         depths(code);
+        room();
         for (int i = 0; i < source.length(); i++) {
             rule(4, "a sign beyond 127", source.charAt(i) < 128);
         }
@@ -188,6 +191,40 @@ public final class RulesTests {
             deepest = open < 30 ? Math.max(deepest, depth(next, calls, open + 1)) : deepest;
         }
         return deepest + 1;
+    }
+
+    /** What all calls make together, in bytes: nothing, but for what the machine itself may need. */
+    private static void room() {
+        ThreadMXBean threads = (ThreadMXBean) ManagementFactory.getThreadMXBean();
+        EchoValley e = new EchoValley();
+        allCalls(e);
+        long before = threads.getCurrentThreadAllocatedBytes();
+        for (int i = 0; i < 10; i++) {
+            allCalls(e);
+        }
+        long made = threads.getCurrentThreadAllocatedBytes() - before;
+        rule(12, "calls make " + made + " bytes", made < 2000);
+    }
+
+    /** The text is: map 9 9;wall a up 8 0 9 0;man m 1 1 9;ear e 1 2;bell b 0 0 0;bell c 1 0 0; */
+    private static void allCalls(EchoValley e) {
+        e.feed(0x6d617020, 0x3920393b, 0x77616c6c, 0x20612075, 0x70203820);
+        e.feed(0x30203920, 0x303b6d61, 0x6e206d20, 0x31203120, 0x393b6561);
+        e.feed(0x72206520, 0x3120323b, 0x62656c6c, 0x20622030, 0x20302030);
+        e.feed(0x3b62656c, 0x6c206320, 0x31203020, 0x303b2020, 0x20202020);
+        e.back(2);
+        rule(12, "the text", e.read() == 0 && e.place() == -1);
+        e.hold(0);
+        e.move(0, 7);
+        e.stands(0, true);
+        e.pace(9);
+        e.restore(0);
+        int sum = e.wall(0, 1) + e.returns(1, 1, 1, 2, 9) + e.at(1, 1, 1, 2, 9, 0, 1) + e.touch(1, 1, 1, 2, 10, 0, true);
+        sum += e.heard(0, 0) + e.drowned(0, 0) + e.beats(1, 1, 9, 9) + e.stand(1, 9, 9, 0) + e.deaf(0, 0) + e.louder(0, 1);
+        sum += e.canon(1, 1, 9, 9, 9) + e.put(0, 0, 0, 0) + e.hush(0, 0) + e.whose(0, 100) + e.along(1, 1, 1, 1, 9, 1);
+        sum += e.nearest(1, 1, 1, 1, 9, 9) + e.first(1, 1, 0) + e.cross(0, 1, 99, 0) + e.chirp(1, 1, 1) + e.tell(1, 1, 9, 1400);
+        sum += e.hidden(1, -1) + e.next(1, 9) + e.shout(0, 0, 9, 1400) + e.fitting(1, -1) + e.step(1, 9) + e.forget() + e.count(12);
+        rule(7, "answers", sum > 0);
     }
 
     private static void lengths(String code) {
