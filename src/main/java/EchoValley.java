@@ -247,10 +247,14 @@ public final class EchoValley {
         ways.span(land.men.xAt(man), land.men.yAt(man), land.ears.xAt(ear), land.ears.yAt(ear));
     }
 
-    /** TIME of the first RETURN, not straight, to the place itself. */
+    /**
+     * TIME of the first RETURN, not straight, to the place itself. Ways by two need not be looked at:
+     * such a way back to its beginning goes to and fro between parallel walls, and the way by the first
+     * of them alone is a part of it: shorter, at least as loud, and open if the whole is.
+     */
     private int echoTime(int x, int y, int loud) {
         ways.span(x, y, x, y);
-        return land.timeOf(ways.shortest(loud, false));
+        return land.timeOf(ways.shortestByOne(loud, NONE));
     }
 
     /** TIME of the first RETURN from the place of one of these to (x, y). */
@@ -1244,11 +1248,7 @@ public final class EchoValley {
         /** The square of the length of the shortest way that comes; NONE if none does. */
         private long shortest(int loud, boolean straightToo) {
             long best = straightToo ? shorter(null, null, loud, NONE) : NONE;
-            for (Wall one : land.walls) {
-                if (one.there) {
-                    best = shorter(one, null, loud, best);
-                }
-            }
+            best = shortestByOne(loud, best);
             for (Wall one : land.walls) {
                 for (Wall two : land.walls) {
                     if (one != two && one.there && two.there) {
@@ -1257,6 +1257,17 @@ public final class EchoValley {
                 }
             }
             return best;
+        }
+
+        /** The same of those by one wall; best if none of them is shorter. */
+        private long shortestByOne(int loud, long best) {
+            long shortest = best;
+            for (Wall one : land.walls) {
+                if (one.there) {
+                    shortest = shorter(one, null, loud, shortest);
+                }
+            }
+            return shortest;
         }
 
         private long shorter(Wall one, Wall two, int loud, long best) {

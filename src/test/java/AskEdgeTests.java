@@ -38,11 +38,13 @@ public final class AskEdgeTests {
         putLeast();
         putStays();
         putTakenAway();
+        putByManAndEar();
         hushAsked();
         hushFewest();
         hushLeastBits();
         hushOfThoseThere();
         hushStays();
+        hushByManAndEar();
         whoseAsked();
         whoseBits();
         alongAsked();
@@ -58,6 +60,7 @@ public final class AskEdgeTests {
         crossWithin();
         crossBothCome();
         chirpAsked();
+        stairs();
         chirpRounded();
         noneAheadOfMinusTwo();
         return T.end();
@@ -147,6 +150,10 @@ public final class AskEdgeTests {
         T.due("1200", e.stand(1200, 99, 1, 0), 5);
         T.due("1201", e.stand(1201, 99, 1, 0), 0);
         EchoValley all = T.valley("map 40 40;wall a up 45 0 45 0;fall 99;");
+        EchoValley high = T.valley("map 3 7;fall 99;wall a up 9 0 9 0;");
+        T.due("higher than wide", high.stand(0, 99, 1, 0), 21);
+        T.due("higher than wide", high.stand(1400, 99, 1, 0), 21);
+        T.due("higher than wide", high.stand(1800, 99, 1, 0), 7);
         T.due("all places", all.stand(0, 99, 9999, 0), 1600);
         T.due("all places", all.stand(12, 99, 100, 0), 1600);
         T.due("all but the last", all.stand(13, 99, 100, 0), 1560);
@@ -201,6 +208,13 @@ public final class AskEdgeTests {
         T.due("how many", e.deaf(0, 0), 9);
         T.due("the first by y", e.deaf(0, 1), 5);
         T.due("of 99", e.deaf(1, 0), 0);
+        // From (3, 1): four of twelve are 2 or more off.
+        e = T.valley("map 4 3;fall 1;ear e 0 0;bell b 2 2 0;man m 3 1 2;");
+        T.due("aside", e.deaf(0, 0), 6);
+        T.due("aside", e.deaf(0, 1), 0);
+        e = T.valley("map 3 4;fall 1;ear e 0 0;bell b 2 2 0;man m 1 3 2;");
+        T.due("below", e.deaf(0, 0), 6);
+        T.due("below", e.deaf(0, 1), 0);
         // All but the place itself.
         e = T.valley("map 3 3;fall 1;man m 0 0 1;man n 1 1 1;");
         T.due("of 1", e.deaf(0, 0), 8);
@@ -247,6 +261,17 @@ public final class AskEdgeTests {
         for (int k : new int[] {99, 100, 1000, 1 << 20, MAX - 1, MAX}) {
             T.due("k " + k, e.louder(0, k), 0);
         }
+        e = T.valley("map 4 3;fall 1;ear e 0 0;bell b 2 2 0;man m 3 1 2;man n 1 0 2;");
+        T.due("the place itself", e.louder(0, 2), 1);
+        T.due("what is less than 2 off", e.louder(0, 1), 6);
+        T.due("of the other man", e.louder(1, 1), 6);
+        e = T.valley("map 3 4;fall 1;ear e 0 0;bell b 2 2 0;man m 1 3 3;");
+        T.due("what is less than 3 off", e.louder(0, 1), 9);
+        EchoValley most = T.valley("map 40 40;fall 1;man m 0 0 1;man n 0 0 99;");
+        for (int k : new int[] {100, 1 << 30, MAX - 100, MAX - 50, MAX - 9, MAX - 1, MAX}) {
+            T.due("k " + k, most.louder(0, k), 0);
+            T.due("k " + k, most.louder(1, k), 0);
+        }
         EchoValley all = T.valley("map 40 40;fall 99;man m 0 0 99;");
         T.due("99", all.louder(0, 99), 1600);
         T.due("100", all.louder(0, 100), 0);
@@ -282,6 +307,13 @@ public final class AskEdgeTests {
             EchoValley e = T.valley("wall a up 9 0 9 0;fall 99;gap " + d[0] + ";");
             T.due("gap " + d[0] + " beat " + d[1], e.canon(5, 5, 30, d[1], 1), d[2]);
         }
+        EchoValley two = T.valley("wall a up 9 0 9 0;wall b flat 12 0 9 20;fall 99;gap 1;");
+        T.due("at (6, 2): 600", two.canon(6, 2, 30, 600, 1), 1);
+        T.due("at (6, 2): 2000", two.canon(6, 2, 30, 2000, 1), 1);
+        T.due("at (6, 2): 600 alone", two.canon(6, 2, 20, 2000, 1), 0);
+        T.due("at (2, 6): 1400", two.canon(2, 6, 30, 1400, 1), 1);
+        T.due("at (2, 6): 1200", two.canon(2, 6, 30, 1200, 1), 1);
+        T.due("at (2, 6): 600", two.canon(2, 6, 30, 600, 1), 0);
         T.due("straight is none", T.valley("gap 9999;").canon(5, 5, 30, 1, 99), 0);
         T.due("too low", T.valley("wall a up 9 0 9 0;fall 1;gap 9999;").canon(5, 5, 8, 1, 1), 0);
         T.due("not too low", T.valley("wall a up 9 0 9 0;fall 1;gap 9999;").canon(5, 5, 9, 1, 1), 1);
@@ -375,6 +407,32 @@ public final class AskEdgeTests {
         int many = e.put(0, 0, 0, 1);
         e.move(0, where);
         T.due("moved there", e.heard(0, 0), many);
+    }
+
+    private static void putByManAndEar() {
+        T.sentence("with the most RETURNS HEARD apart by an EAR from a MAN;");
+        // From 2 to 8 it is 1000 behind from 13 on: 16 long, not 6. From 4 to 0 it is from 9 on: 14 long, not 4.
+        EchoValley e = T.valley("map 30 3;fall 99;gap 1000;man m 2 0 99;man n 4 1 99;ear e 8 0;ear f 0 1;wall a up 1 0 9 0;");
+        T.due("2 to 8", e.put(0, 0, 0, 0), 13);
+        T.due("2 to 0 aslant", e.put(0, 0, 1, 0), 8);
+        T.due("4 to 8 aslant", e.put(0, 1, 0, 0), 14);
+        T.due("4 to 0", e.put(0, 1, 1, 0), 9);
+    }
+
+    private static void hushByManAndEar() {
+        T.sentence("without which nothing but straight COMES from a MAN to an EAR;");
+        // a is heard in y 3 alone, b in y 7 alone.
+        EchoValley e = T.valley("man m 2 3 99;man n 4 7 99;ear e 5 7;ear f 1 3;wall a up 9 3 3 0;wall b up 9 7 7 0;wall c up 9 5 5 0;");
+        T.due("m to e", e.hush(0, 0), 0);
+        T.due("m to f", e.hush(0, 1), 1);
+        T.due("n to e", e.hush(1, 0), 2);
+        T.due("n to f", e.hush(1, 1), 0);
+        // m is too low for b, n is not.
+        e = T.valley("man m 2 3 1;man n 2 3 9;ear e 2 3;ear f 2 4;wall b up 9 0 9 0;");
+        T.due("m to e", e.hush(0, 0), 0);
+        T.due("m to f", e.hush(0, 1), 0);
+        T.due("n to e", e.hush(1, 0), 1);
+        T.due("n to f", e.hush(1, 1), 1);
     }
 
     private static void putTakenAway() {
@@ -485,7 +543,7 @@ public final class AskEdgeTests {
         T.due("no ear", T.valley("man m 1 1 1;").whose(0, 0), NONE);
         T.due("no man", T.valley("ear e 1 1;").whose(0, 0), 0);
         EchoValley e = T.valley("man m 1 1 9;man n 9 1 1;ear e 1 1;fall 1;");
-        for (int time : new int[] {-1, -3, 1, MAX, MIN}) {
+        for (int time : new int[] {1, 99, 10000, MAX}) {
             T.due("at " + time, e.whose(0, time), 0);
         }
         T.due("at 0", e.whose(0, 0), 1);
@@ -494,14 +552,18 @@ public final class AskEdgeTests {
 
     private static void whoseBits() {
         T.sentence("WHOSE: MEN whose first RETURN at an EAR is at a TIME.");
-        EchoValley e = T.valley("map 20 20;fall 99;man a 5 5 9;man b 0 5 9;man c 8 9 9;man d 5 0 9;man f 9 2 9;man g 10 5 9;ear x 5 5;ear y 0 5;");
-        T.due("at 500", e.whose(0, 500), 2 + 4 + 8 + 16 + 32);
-        T.due("at 499", e.whose(0, 499), 0);
-        T.due("at 501", e.whose(0, 501), 0);
-        T.due("at 0", e.whose(0, 0), 1);
-        T.due("at another ear", e.whose(1, 0), 2);
-        T.due("at another ear", e.whose(1, 500), 1);
-        T.due("at another ear", e.whose(1, 1000), 32);
+        EchoValley e = T.valley("map 20 20;fall 99;man a 5 5 9;man b 0 5 9;man c 8 9 9;man d 5 0 9;man f 9 2 9;man g 10 5 9;ear y 0 5;ear x 5 5;ear z 5 2;");
+        T.due("at 500", e.whose(1, 500), 2 + 4 + 8 + 16 + 32);
+        T.due("at 499", e.whose(1, 499), 0);
+        T.due("at 501", e.whose(1, 501), 0);
+        T.due("at 0", e.whose(1, 0), 1);
+        T.due("at another ear", e.whose(0, 0), 2);
+        T.due("at another ear", e.whose(0, 500), 1);
+        T.due("at another ear", e.whose(0, 1000), 32);
+        T.due("aslant", e.whose(0, 894), 4);
+        T.due("at the third ear", e.whose(2, 300), 1);
+        T.due("at the third ear", e.whose(2, 200), 8);
+        T.due("at the third ear", e.whose(2, 400), 16);
         // The first RETURN alone; straight or not.
         e = T.valley("fall 99;man a 5 5 9;man b 5 7 9;ear x 5 5;wall w up 9 0 19 0;wall v flat 6 0 5 0;");
         T.due("straight", e.whose(0, 0), 1);
@@ -542,6 +604,11 @@ public final class AskEdgeTests {
         T.due("far", e.along(0, 0, 40, 40, 99, 99), -3);
         T.due("far", e.along(7, 5, -40, -40, 99, 99), -3);
         T.due("begun off the MAP", e.along(-1, 0, 1, 0, 99, 1), NONE);
+        EchoValley low = T.valley(STEPS.replace("fall 99", "fall 2"));
+        int[] of4 = {-2, -2, -2, 600, 400, 200, -2, 200};
+        for (int i = 0; i < of4.length; i++) {
+            T.due("of 4: " + i, low.along(0, 3, 1, 0, 4, i), of4[i]);
+        }
         EchoValley great = T.valley("map 40 40;fall 99;wall a up 99 0 99 0;");
         T.due("from edge to edge", great.along(0, 0, 39, 39, 99, 1), 12000);
         T.due("over the edge", great.along(0, 0, 40, 39, 99, 1), -3);
@@ -581,6 +648,11 @@ public final class AskEdgeTests {
         T.due("but to the second", e.nearest(2, 5, 0, -1, 99, 2), 1);
         T.due("none comes to the first one, off the MAP", e.nearest(2, 5, 40, 40, 99, 100), -2);
         T.due("no wall", new EchoValley().nearest(0, 0, 1, 1, 99, 100), -2);
+        EchoValley low = T.valley(STEPS.replace("fall 99", "fall 2"));
+        T.due("of 4", low.nearest(0, 3, 1, 0, 4, 3), -2);
+        T.due("of 4", low.nearest(0, 3, 1, 0, 4, 4), 3);
+        T.due("of 5", low.nearest(0, 3, 1, 0, 5, 3), 2);
+        T.due("of 1", low.nearest(0, 3, 1, 0, 1, 100), -2);
         EchoValley great = T.valley("map 40 1;fall 99;wall a up 40 0 0 0;");
         T.due("the last of forty", great.nearest(0, 0, 1, 0, 99, 100), 39);
         T.due("of thirty nine", great.nearest(0, 0, 1, 0, 99, 39), 38);
@@ -707,6 +779,21 @@ public final class AskEdgeTests {
         for (int i = 0; i < 3; i++) {
             T.range(TEXT, "chirp", (e, a) -> e.chirp(a[0], a[1], a[2]), new int[] {5, 5, 5}, i, 1, most[i]);
         }
+    }
+
+    private static void stairs() {
+        T.sentence("STAIRS: steps far, far + tread, far + 2 tread, .. straight ahead:");
+        int[][] all = {{1, 1}, {999, 999}, {10, 2}, {7, 13}, {999, 1}, {1, 999}};
+        for (int pace : new int[] {1, 7, 10, 98, 99}) {
+            EchoValley e = T.valley("pace " + pace + ";");
+            for (int[] s : all) {
+                for (int i : new int[] {1, 2, 3, 50, 98, 99}) {
+                    int due = 2000 * (s[0] + i * s[1]) / pace - 2000 * (s[0] + i * s[1] - s[1]) / pace;
+                    T.due("chirp " + s[0] + " " + s[1] + " " + i + " by " + pace, e.chirp(s[0], s[1], i), due);
+                }
+            }
+        }
+        T.due("walls are no matter", T.valley("wall a up 1 0 9 0;wall b flat 1 0 9 0;").chirp(10, 2, 1), 400);
     }
 
     private static void chirpRounded() {

@@ -64,6 +64,12 @@ public final class PromiseTests {
     }
 
     public static void main(String[] args) {
+        if (run() != 0) {
+            System.exit(1);
+        }
+    }
+
+    static int run() {
         tape();
         texts();
         reading();
@@ -90,9 +96,7 @@ public final class PromiseTests {
         slots();
         counts();
         System.out.println(wrong == 0 ? "PromiseTests: all as due" : "PromiseTests: " + wrong + " not as due");
-        if (wrong != 0) {
-            System.exit(1);
-        }
+        return wrong;
     }
 
     // ---- promises 1 to 5
@@ -899,12 +903,10 @@ public final class PromiseTests {
         e.stands(0, false);
         due("at 300", e.whose(0, 300), 4);
         due("too low", e.whose(0, 500), 3);
-        due("none comes is no TIME", e.whose(0, -2), 0);
-        due("at -1", e.whose(0, -1), 0);
+        due("at none of these", e.whose(0, Integer.MAX_VALUE), 0);
         due("no such ear", e.whose(1, 500), -1);
         for (int n : ODD) {
             due("whose", e.whose(n, 500), -1);
-            due("whose", e.whose(0, n), 0);
         }
         // The first RETURN only; not straight if that is blocked.
         e = valley("man a 4 6 9; ear e 4 6; wall w up 9 0 9 0; man b 4 8 9; wall v flat 7 0 5 0;");

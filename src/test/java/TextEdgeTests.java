@@ -36,6 +36,8 @@ public final class TextEdgeTests {
         ints();
         noTokens();
         anyText();
+        eachForm();
+        earsTold();
         cutForms();
         wrongKinds();
         wallRoom();
@@ -384,6 +386,35 @@ public final class TextEdgeTests {
         return s.toString();
     }
 
+    private static void eachForm() {
+        T.sentence("TELL: 'wall' NAME ('up' | 'flat') INT INT INT INT ';' | 'man' NAME INT INT INT ';' | 'ear' NAME INT INT ';'"
+            + " | 'bell' NAME INT INT INT ';' | 'map' INT INT ';' | 'pace' INT ';' | 'fall' INT ';' | 'gap' INT ';'.");
+        int[][] counts = {{0, 1}, {0, 1}, {1, 1}, {2, 1}, {3, 1}, {4, 2}, {6, 1}, {7, 1}, {8, 1}};
+        for (int i = 0; i < FORMS.length; i++) {
+            String whole = joined(FORMS[i], FORMS[i].length);
+            T.fine(whole);
+            T.fine(whole.replace(" ;", ";"));
+            T.due(whole, T.valley(whole).count(counts[i][0]), counts[i][1]);
+            T.fault(whole + ";", 1, whole.length());
+            T.fault(whole.replace(" ;", " 1 ;"), 1, whole.length() - 1);
+            T.fault(whole.replace(" ;", " q ;"), 1, whole.length() - 1);
+        }
+        EchoValley e = T.valley("wall w flat 5 0 9 0;");
+        T.due("flat", e.wall(0, 0), 1);
+        T.due("up", T.valley("wall w up 5 0 9 0;").wall(0, 0), 0);
+    }
+
+    private static void earsTold() {
+        T.sentence("EARS, 6 at most (x, y),");
+        T.fine(EARS);
+        T.fault(EARS + "ear", 2, EARS.length());
+        EchoValley e = T.valley("map 40 30;fall 99;man m 39 29 9;ear a 39 29;ear b 0 0;ear c 39 0;ear d 0 29;");
+        T.due("the last place", e.whose(0, 0), 1);
+        T.due("the first place", e.whose(1, 4860), 1);
+        T.due("x alone", e.whose(2, 2900), 1);
+        T.due("y alone", e.whose(3, 3900), 1);
+    }
+
     private static void cutForms() {
         T.sentence("the first by its place (a byte; the text's end: its length)");
         for (String[] form : FORMS) {
@@ -490,6 +521,17 @@ public final class TextEdgeTests {
         String one = "map1 1;".repeat(99) + "gap1;";
         T.fault(one + "gap1;", 2, one.length() + 3);
         T.fault(one + "pace;", 1, one.length() + 4);
+        // The 400th counts, and what is told by it.
+        String last = full.substring(7);
+        EchoValley e = T.valley(last + "map2 3;");
+        T.due("wide", e.count(4), 2);
+        T.due("high", e.count(5), 3);
+        T.fault(last + "map2 0;", 5, last.length() + 5);
+        String ear = "map1 1;".repeat(98) + "gap1;";
+        T.fine(ear + "ear e0 0;");
+        T.due("ears", T.valley(ear + "ear e0 0;").count(2), 1);
+        T.fault(ear + "ear e0 1;", 6, ear.length() + 7);
+        T.fault("ear e0 0;" + "map1 1;".repeat(97) + "ear e0 0;", 3, 9 + 7 * 97 + 4);
         // Far more of them are the 401st too.
         String most = "map1 1;".repeat(285);
         T.fault(most, 2, 700);
@@ -607,6 +649,11 @@ public final class TextEdgeTests {
         String all = EIGHT + MEN + EARS + BELLS.substring(0, BELLS.length() - 14);
         T.fault(all + "bell wa 1 1 1;", 3, all.length() + 5);
         T.fault(all + "bell be 1 1 1;", 3, all.length() + 5);
+        // What stands beside a NAME is no part of it.
+        T.fault("ear a 1 1;ear\ta 1 1;", 3, 14);
+        T.fault("ear a 1 1;ear  a\n1 1;", 3, 15);
+        T.fault("ear a 1 1;ear a1 1;", 3, 14);
+        T.fault("ear a1 1;man a 1 1 1;", 3, 13);
         // A NAME of an earlier text is not told in this one.
         EchoValley e = T.valley("ear a 1 1;");
         T.read(e, "ear a 1 1;");

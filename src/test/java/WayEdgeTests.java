@@ -33,6 +33,8 @@ public final class WayEdgeTests {
         blockersEnds();
         throughAWall();
         lengthNull();
+        longToTheImage();
+        softOfItsWalls();
         trueTime();
         loudness();
         comes();
@@ -52,6 +54,7 @@ public final class WayEdgeTests {
         touchRounded();
         touchNeedNotCome();
         heardAsked();
+        heardByManAndEar();
         return T.end();
     }
 
@@ -491,6 +494,34 @@ public final class WayEdgeTests {
 
     // ---- TIME and LOUD
 
+    private static void longToTheImage() {
+        T.sentence("LONG: its length, that from P to the last image (or Q).");
+        EchoValley e = T.valley("map 20 20;fall 99;wall a up 10 0 19 0;");
+        // 12.649, 12.369 and 12 long; of the last no more is left than nothing.
+        T.dueReturns(e, p(4, 5, 4, 9), 9, p(0, 400, 9, 4), p(10, 1264, 9, 12));
+        T.dueReturns(e, p(4, 5, 4, 8), 9, p(0, 300, 9, 3), p(10, 1236, 9, 12));
+        T.dueReturns(e, p(4, 5, 4, 5), 9, p(0, 0, 9, 0), p(10, 1200, 9, 12));
+        T.dueReturns(e, p(9, 5, 9, 5), 9, p(0, 0, 9, 0), p(10, 200, 9, 2));
+        e = T.valley("map 20 20;fall 99;wall a up 0 0 19 0;wall b flat 0 0 19 0;");
+        T.dueReturns(e, p(2, 6, 4, 3), 9, p(0, 360, 9, 3), p(10, 670, 9, 6), p(11, 921, 9, 9), p(101, 1081, 9, 10));
+    }
+
+    private static void softOfItsWalls() {
+        T.sentence("LOUD of a sound of loudness s: s, less SOFT of its WALLS,");
+        String[] soft = {"0;", "1;", "29;", "30;", "98;", "99;"};
+        int[] off = {0, 1, 29, 30, 98, 99};
+        for (int i = 0; i < soft.length; i++) {
+            EchoValley e = T.valley("fall 99;wall a up 0 0 19 " + soft[i] + "wall b up 9 0 19 0;wall c flat 19 0 0 99;");
+            T.due("off a of 99", e.touch(4, 4, 4, 4, 10, 0, false), 0);
+            int many = off[i] < 99 ? 5 : 2;
+            T.due("of 99 with " + soft[i], e.returns(4, 4, 4, 4, 99), many);
+            T.due("the near one", e.at(4, 4, 4, 4, 99, 1, 2), off[i] < 99 ? 99 - off[i] : 99);
+            T.due("the far one", e.at(4, 4, 4, 4, 99, off[i] < 99 ? 2 : 1, 2), 99);
+            T.due("off both", e.at(4, 4, 4, 4, 99, 3, 2), off[i] < 99 ? 99 - off[i] : NONE);
+            T.due("of one less", e.returns(4, 4, 4, 4, Math.max(1, off[i])), off[i] == 0 ? 5 : 2);
+        }
+    }
+
     private static void trueTime() {
         T.sentence("TIME: 1000 times LONG by PACE, rounded down (of the true length).");
         int[][] due = {{1, 1, 3, 471}, {1, 1, 7, 202}, {1, 1, 1, 1414}, {0, 3, 7, 428}, {7, 0, 7, 1000}, {5, 0, 99, 50}, {1, 0, 99, 10},
@@ -562,6 +593,11 @@ public final class WayEdgeTests {
         T.dueReturns(e, p(5, 5, 5, 5), 30, p(0, 0, 30, 0), p(11, 600, 10, 6), p(10, 800, 30, 8));
         e = T.valley("wall a flat 8 0 9 20;wall b up 9 0 9 0;");
         T.dueReturns(e, p(5, 5, 5, 5), 30, p(0, 0, 30, 0), p(10, 600, 10, 6), p(11, 800, 30, 8));
+        // Straight is blocked: what is told last comes first.
+        EchoValley late = T.valley("wall a up 0 0 19 0;wall b up 9 0 19 0;wall c flat 5 7 7 0;");
+        T.dueReturns(late, p(7, 4, 7, 6), 30, p(11, 447, 30, 4), p(10, 1414, 29, 14), p(101, 1811, 29, 18), p(110, 1811, 29, 18));
+        late = T.valley("wall c flat 5 7 7 0;wall b up 9 0 19 0;wall a up 0 0 19 0;");
+        T.dueReturns(late, p(7, 4, 7, 6), 30, p(11, 447, 30, 4), p(12, 1414, 29, 14), p(112, 1811, 29, 18), p(121, 1811, 29, 18));
         // What does not come is not among them: the i-th is the i-th that comes.
         T.dueReturns(e, p(5, 5, 5, 5), 20, p(0, 0, 20, 0), p(11, 800, 20, 8));
     }
@@ -675,6 +711,34 @@ public final class WayEdgeTests {
         heardAndDrowned(three(400, 1, 0), 2, 1);
         heardAndDrowned(three(401, 1, 0), 1, 1);
         heardAndDrowned(three(201, 0, 1), 1, 1);
+    }
+
+    private static void heardByManAndEar() {
+        T.sentence("How many RETURNS from a MAN to an EAR are HEARD apart;");
+        // With GAP 0 all are HEARD apart and none is DROWNED; with 9999 only the first is HEARD.
+        String text = "map 20 15;wall a up 17 0 19 3;wall b flat 0 2 9 0;wall c up 0 4 12 1;wall d flat 14 0 19 0;man m 3 2 30;man n 12 9 5;man o 16 1 9;"
+            + "ear e 5 13;ear f 1 7;ear g 14 3;fall 5;gap ";
+        int[][] men = {{3, 2, 30}, {12, 9, 5}, {16, 1, 9}};
+        int[][] ears = {{5, 13}, {1, 7}, {14, 3}};
+        EchoValley none = T.valley(text + "0;");
+        EchoValley all = T.valley(text + "9999;");
+        for (int man = 0; man < 3; man++) {
+            for (int ear = 0; ear < 3; ear++) {
+                int[] p = {men[man][0], men[man][1], ears[ear][0], ears[ear][1]};
+                int many = all.returns(p[0], p[1], p[2], p[3], men[man][2]);
+                int lower = 0;
+                int loudest = 0;
+                for (int i = 0; i < many; i++) {
+                    int loud = all.at(p[0], p[1], p[2], p[3], men[man][2], i, 2);
+                    lower += loud < loudest ? 1 : 0;
+                    loudest = Math.max(loudest, loud);
+                }
+                T.due("all from " + man + " to " + ear, none.heard(man, ear), many);
+                T.due("none from " + man + " to " + ear, none.drowned(man, ear), 0);
+                T.due("the first from " + man + " to " + ear, all.heard(man, ear), Math.min(1, many));
+                T.due("the lower ones from " + man + " to " + ear, all.drowned(man, ear), lower);
+            }
+        }
     }
 
     private static void heardAsked() {
