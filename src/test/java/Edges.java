@@ -46,8 +46,14 @@ final class Edges {
     private void blame(String what) {
         wrong++;
         if (wrong <= 200) {
-            System.out.println("\"" + sentence + "\": " + what);
+            System.out.println("\"" + sentence + "\": " + shown(what));
         }
+    }
+
+    /** Long texts are told by their beginning and their end. */
+    private static String shown(String what) {
+        int most = 300;
+        return what.length() <= most ? what : what.substring(0, most / 2) + " .. " + what.substring(what.length() - most / 2);
     }
 
     /** How many answers were not as due. */
