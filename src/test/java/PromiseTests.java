@@ -1,4 +1,3 @@
-import java.nio.charset.StandardCharsets;
 import java.util.Arrays;
 
 /** Each promise of the document by answers worked out by hand: ordinary ones, edges, wrong arguments. */
@@ -21,16 +20,7 @@ public final class PromiseTests {
     // ---- texts
 
     private static void put(EchoValley e, String text) {
-        byte[] told = text.getBytes(StandardCharsets.ISO_8859_1);
-        byte[] bytes = Arrays.copyOf(told, (told.length + 19) / 20 * 20);
-        for (int i = 0; i < bytes.length; i += 20) {
-            int[] five = new int[5];
-            for (int j = 0; j < 20; j++) {
-                five[j / 4] = five[j / 4] << 8 | bytes[i + j] & 255;
-            }
-            e.feed(five[0], five[1], five[2], five[3], five[4]);
-        }
-        e.back(bytes.length - told.length);
+        Edges.put(e, text);
     }
 
     private static EchoValley valley(String text) {
@@ -52,15 +42,11 @@ public final class PromiseTests {
     }
 
     private static String many(String part, int times) {
-        StringBuilder s = new StringBuilder();
-        for (int i = 0; i < times; i++) {
-            s.append(part.replace('?', (char) ('a' + i)));
-        }
-        return s.toString();
+        return Edges.many(part, times);
     }
 
     private static int code(int x, int y) {
-        return 100 * y + x;
+        return Edges.code(x, y);
     }
 
     public static void main(String[] args) {
